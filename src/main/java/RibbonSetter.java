@@ -289,7 +289,7 @@ public final class RibbonSetter {
 
         boolean uses(int p) {
             for (int other = 0; other < PLACES; other++) {
-                if (between(p, other) > 0 || between(other, p) > 0) {
+                if (widths[p * PLACES + other] > 0 || widths[other * PLACES + p] > 0) {
                     return true;
                 }
             }
@@ -363,7 +363,7 @@ public final class RibbonSetter {
 
         /** Whether a FLOW that is not TURNED has a LINK from LAYER l to the next one. */
         boolean links(int a, int b, int l) {
-            return straight(a, b) > 0 && layers[a] <= l && l < layers[b];
+            return straights[a * PLACES + b] > 0 && layers[a] <= l && l < layers[b];
         }
 
         /** The ITEM by which the FLOW from a to b is in LAYER l. */

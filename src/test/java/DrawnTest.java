@@ -40,6 +40,15 @@ public final class DrawnTest {
         point(x, 1, 2, 0, NONE, NONE);
         point(x, 1, 2, 1, NONE, 0);
         point(x, 1, 2, 2, 0, NONE);
+
+        x.clear();
+        x.flow(0, 1, 5);
+        x.flow(1, 2, 5);
+        x.flow(2, 1, 4);
+        place(x, 1, 0, 5);
+        x.flow(2, 1, 0);
+        x.flow(1, 0, 4);
+        place(x, 1, 0, 5);
     }
 
     // LINKS leave in the order of where they go: 3 1 / 2 4 has 3 to 2 above 3 to 4.

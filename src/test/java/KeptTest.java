@@ -85,17 +85,20 @@ public final class KeptTest {
         layer(x, 1, 5, 4);
     }
 
-    // 0 and 3 stood in two LAYERS, so nothing is asked of them in one.
+    // KEPT is 2 3 / 1 0: 0 and 2 stood in two LAYERS, so nothing is asked of them in one.
     private static void keptInTwoLayers() {
         RibbonSetter x = new RibbonSetter();
+        x.flow(2, 1, 1);
         x.flow(3, 0, 1);
+        layer(x, 0, 2, 3);
+        layer(x, 1, 1, 0);
         x.keep();
         x.clear();
         x.set(4, 9999);
-        x.flow(0, 1, 1);
-        x.flow(3, 2, 1);
+        x.flow(0, 4, 1);
+        x.flow(2, 5, 1);
         is(x, 0, 0, 0, 2);
-        layer(x, 0, 0, 3);
+        layer(x, 0, 0, 2);
     }
 
     private static void keptAnew() {

@@ -6,6 +6,8 @@ public final class OrderTest {
     public static void main(String[] args) {
         crossingByWidth();
         firstOfSeveral();
+        firstInTheNextLayer();
+        waysMultiply();
         beadsAreOrdered();
         fiveAndSix();
         sixByBeads();
@@ -60,6 +62,44 @@ public final class OrderTest {
         layer(x, 0, 0, 1, 4);
         layer(x, 1, 3, 2, 5);
         due.is("orders() of three pairs", x.orders(), 6);
+    }
+
+    // What comes from 0 is above what comes from 1; within each the lesser is first.
+    private static void firstInTheNextLayer() {
+        RibbonSetter x = new RibbonSetter();
+        x.flow(0, 4, 1);
+        x.flow(0, 5, 1);
+        x.flow(1, 2, 1);
+        x.flow(1, 3, 1);
+        layer(x, 0, 0, 1);
+        layer(x, 1, 4, 5, 2, 3);
+        due.is("orders() of two and two", x.orders(), 8);
+        x.clear();
+        x.flow(0, 3, 1);
+        x.flow(0, 4, 1);
+        x.flow(0, 5, 1);
+        x.flow(1, 2, 1);
+        layer(x, 1, 3, 4, 5, 2);
+        due.is("orders() of three and one", x.orders(), 12);
+        x.flow(1, 6, 1);
+        layer(x, 1, 3, 4, 5, 2, 6);
+        due.is("orders() of three and two", x.orders(), 24);
+    }
+
+    // Six orders beside 1, and two behind it, in each of these.
+    private static void waysMultiply() {
+        RibbonSetter x = new RibbonSetter();
+        x.flow(0, 1, 1);
+        x.flow(0, 2, 1);
+        x.flow(0, 3, 1);
+        x.flow(1, 4, 1);
+        x.flow(1, 5, 1);
+        due.is("cost()", x.cost(), 0);
+        due.is("orders()", x.orders(), 12);
+        x.flow(4, 6, 1);
+        x.flow(4, 7, 1);
+        x.flow(4, 8, 1);
+        due.is("orders() with six more", x.orders(), 72);
     }
 
     // A BEAD in each LAYER between, that crosses where its LINKS do.
