@@ -23,6 +23,8 @@ public final class FlowsTest {
             due.is("new about(" + what + ")", x.about(what), want[what]);
         }
         for (int a = -1; a <= 10; a++) {
+            // A new one each time: an object answers 512 calls.
+            x = new RibbonSetter();
             for (int b = -1; b <= 10; b++) {
                 due.is("new width", x.width(a, b), 0);
                 due.is("new turned", x.turned(a, b), NONE);

@@ -21,11 +21,6 @@ public final class KeptTest {
         due.is("orders()", x.orders(), orders);
     }
 
-    private static void layer(RibbonSetter x, int l, int upper, int lower) {
-        due.is("item(" + l + ", 0)", x.item(l, 0), upper);
-        due.is("item(" + l + ", 1)", x.item(l, 1), lower);
-    }
-
     /** KEPT is 0 1 / 2 3; the FLOWS want 0 1 / 3 2 or 1 0 / 2 3 now. */
     private static RibbonSetter turnedAbout() {
         RibbonSetter x = new RibbonSetter();
@@ -43,12 +38,12 @@ public final class KeptTest {
         RibbonSetter x = turnedAbout();
         x.set(4, 10);
         is(x, 10, 0, 1, 2);
-        layer(x, 0, 0, 1);
-        layer(x, 1, 3, 2);
+        due.layer(x, 0, 0, 1);
+        due.layer(x, 1, 3, 2);
         x.set(4, 25);
         is(x, 25, 25, 0, 3);
         due.is("part(1)", x.part(1), 1);
-        layer(x, 1, 2, 3);
+        due.layer(x, 1, 2, 3);
         x.set(4, 26);
         is(x, 25, 25, 0, 1);
         x.set(4, 24);
@@ -56,7 +51,7 @@ public final class KeptTest {
         x.forget();
         due.is("about(7)", x.about(7), 0);
         is(x, 0, 0, 0, 2);
-        layer(x, 1, 3, 2);
+        due.layer(x, 1, 3, 2);
         x.forget();
         due.is("about(7) again", x.about(7), 0);
     }
@@ -64,25 +59,25 @@ public final class KeptTest {
     private static void movesWithoutPrice() {
         RibbonSetter x = turnedAbout();
         is(x, 0, 0, 1, 2);
-        layer(x, 0, 0, 1);
-        layer(x, 1, 3, 2);
+        due.layer(x, 0, 0, 1);
+        due.layer(x, 1, 3, 2);
     }
 
     private static void keptInAnotherLayer() {
         RibbonSetter x = new RibbonSetter();
         x.flow(0, 3, 1);
         x.flow(1, 2, 1);
-        layer(x, 1, 3, 2);
+        due.layer(x, 1, 3, 2);
         x.keep();
         x.clear();
         x.flow(2, 4, 1);
         x.flow(3, 5, 1);
         is(x, 0, 0, 1, 2);
-        layer(x, 0, 2, 3);
+        due.layer(x, 0, 2, 3);
         x.set(4, 1);
         is(x, 0, 0, 0, 1);
-        layer(x, 0, 3, 2);
-        layer(x, 1, 5, 4);
+        due.layer(x, 0, 3, 2);
+        due.layer(x, 1, 5, 4);
     }
 
     // KEPT is 2 3 / 1 0: 0 and 2 stood in two LAYERS, so nothing is asked of them in one.
@@ -90,15 +85,15 @@ public final class KeptTest {
         RibbonSetter x = new RibbonSetter();
         x.flow(2, 1, 1);
         x.flow(3, 0, 1);
-        layer(x, 0, 2, 3);
-        layer(x, 1, 1, 0);
+        due.layer(x, 0, 2, 3);
+        due.layer(x, 1, 1, 0);
         x.keep();
         x.clear();
         x.set(4, 9999);
         x.flow(0, 4, 1);
         x.flow(2, 5, 1);
         is(x, 0, 0, 0, 2);
-        layer(x, 0, 0, 2);
+        due.layer(x, 0, 0, 2);
     }
 
     private static void keptAnew() {
@@ -106,13 +101,13 @@ public final class KeptTest {
         x.set(4, 10);
         due.is("keep() anew", x.keep(), true);
         is(x, 0, 0, 0, 1);
-        layer(x, 1, 3, 2);
+        due.layer(x, 1, 3, 2);
         x.clear();
         x.flow(0, 2, 1);
         x.flow(1, 3, 1);
         is(x, 1, 1, 0, 1);
-        layer(x, 0, 0, 1);
-        layer(x, 1, 3, 2);
+        due.layer(x, 0, 0, 1);
+        due.layer(x, 1, 3, 2);
     }
 
     private static void keepWithoutDrawing() {
@@ -137,7 +132,7 @@ public final class KeptTest {
         x.flow(0, 3, 1);
         x.set(4, 1);
         is(x, 0, 0, 0, 1);
-        layer(x, 1, 3, 2);
+        due.layer(x, 1, 3, 2);
     }
 
     private static void keepWithoutFlows() {

@@ -16,14 +16,6 @@ public final class OrderTest {
         due.end();
     }
 
-    private static void layer(RibbonSetter x, int l, int... items) {
-        due.is("items(" + l + ")", x.items(l), items.length);
-        for (int i = 0; i < items.length; i++) {
-            due.is("item(" + l + ", " + i + ")", x.item(l, i), items[i]);
-        }
-        due.is("item behind the last", x.item(l, items.length), NONE);
-    }
-
     private static void parts(RibbonSetter x, int cost, int crossCost, int pairs, int moves) {
         due.is("cost()", x.cost(), cost);
         due.is("part(0)", x.part(0), crossCost);
@@ -39,12 +31,12 @@ public final class OrderTest {
         x.flow(1, 2, 9);
         x.flow(1, 3, 3);
         parts(x, 6, 6, 1, 0);
-        layer(x, 0, 0, 1);
-        layer(x, 1, 3, 2);
+        due.layer(x, 0, 0, 1);
+        due.layer(x, 1, 3, 2);
         due.is("orders()", x.orders(), 2);
         x.flow(0, 2, 99);
         parts(x, 81, 81, 1, 0);
-        layer(x, 1, 2, 3);
+        due.layer(x, 1, 2, 3);
         x.flow(1, 3, 0);
         parts(x, 0, 0, 0, 0);
         due.is("orders() without a cross", x.orders(), 2);
@@ -55,12 +47,12 @@ public final class OrderTest {
         RibbonSetter x = new RibbonSetter();
         x.flow(0, 3, 1);
         x.flow(1, 2, 1);
-        layer(x, 0, 0, 1);
-        layer(x, 1, 3, 2);
+        due.layer(x, 0, 0, 1);
+        due.layer(x, 1, 3, 2);
         due.is("orders()", x.orders(), 2);
         x.flow(4, 5, 1);
-        layer(x, 0, 0, 1, 4);
-        layer(x, 1, 3, 2, 5);
+        due.layer(x, 0, 0, 1, 4);
+        due.layer(x, 1, 3, 2, 5);
         due.is("orders() of three pairs", x.orders(), 6);
     }
 
@@ -71,18 +63,18 @@ public final class OrderTest {
         x.flow(0, 5, 1);
         x.flow(1, 2, 1);
         x.flow(1, 3, 1);
-        layer(x, 0, 0, 1);
-        layer(x, 1, 4, 5, 2, 3);
+        due.layer(x, 0, 0, 1);
+        due.layer(x, 1, 4, 5, 2, 3);
         due.is("orders() of two and two", x.orders(), 8);
         x.clear();
         x.flow(0, 3, 1);
         x.flow(0, 4, 1);
         x.flow(0, 5, 1);
         x.flow(1, 2, 1);
-        layer(x, 1, 3, 4, 5, 2);
+        due.layer(x, 1, 3, 4, 5, 2);
         due.is("orders() of three and one", x.orders(), 12);
         x.flow(1, 6, 1);
-        layer(x, 1, 3, 4, 5, 2, 6);
+        due.layer(x, 1, 3, 4, 5, 2, 6);
         due.is("orders() of three and two", x.orders(), 24);
     }
 
@@ -109,20 +101,20 @@ public final class OrderTest {
         x.flow(1, 2, 1);
         x.flow(2, 3, 1);
         x.flow(0, 3, 5);
-        layer(x, 0, 0);
-        layer(x, 1, 1, 103);
-        layer(x, 2, 2, 103);
-        layer(x, 3, 3);
+        due.layer(x, 0, 0);
+        due.layer(x, 1, 1, 103);
+        due.layer(x, 2, 2, 103);
+        due.layer(x, 3, 3);
         parts(x, 0, 0, 0, 0);
         due.is("orders()", x.orders(), 2);
         x.flow(9, 2, 4);
         x.flow(0, 9, 4);
-        layer(x, 1, 1, 9, 103);
+        due.layer(x, 1, 1, 9, 103);
         due.is("orders() with 9", x.orders(), 4);
         x.flow(8, 1, 7);
-        layer(x, 0, 0, 8);
-        layer(x, 1, 103, 9, 1);
-        layer(x, 2, 103, 2);
+        due.layer(x, 0, 0, 8);
+        due.layer(x, 1, 103, 9, 1);
+        due.layer(x, 2, 103, 2);
         due.is("orders() with 8", x.orders(), 2);
         parts(x, 0, 0, 0, 0);
     }
@@ -134,7 +126,7 @@ public final class OrderTest {
         }
         due.is("cost() of five", x.cost(), 0);
         due.is("orders() of five", x.orders(), 120);
-        layer(x, 1, 1, 2, 3, 4, 5);
+        due.layer(x, 1, 1, 2, 3, 4, 5);
         x.flow(0, 6, 1);
         due.is("cost() of six", x.cost(), NONE);
         due.is("orders() of six", x.orders(), NONE);
@@ -158,7 +150,7 @@ public final class OrderTest {
         x.flow(7, 2, 1);
         x.flow(7, 3, 1);
         x.flow(7, 4, 1);
-        layer(x, 1, 1, 102, 3, 4, 172);
+        due.layer(x, 1, 1, 102, 3, 4, 172);
         due.is("cost()", x.cost(), 0);
         x.flow(0, 5, 1);
         due.is("items(1)", x.items(1), 6);

@@ -16,7 +16,7 @@ public final class RoomTest {
         before = COUNTER.getCurrentThreadAllocatedBytes();
         int sum = calls(x);
         long used = COUNTER.getCurrentThreadAllocatedBytes() - before;
-        due.is("512 calls make under 4 KiB, not " + used + " (" + sum + ")", used < 4096, true);
+        due.is("a full run of calls makes under 4 KiB, not " + used + " (" + sum + ")", used < 4096, true);
         due.end();
     }
 
@@ -33,7 +33,7 @@ public final class RoomTest {
         }
         sum += x.flow(0, 9, 2) && x.flow(0, 4, 2) && x.flow(3, 9, 2) && x.flow(0, 5, 2) ? 1 : 0;
         sum += x.flow(4, 9, 2) && x.flow(0, 6, 2) && x.flow(5, 9, 2) ? 1 : 0;
-        for (int i = 0; i < 62; i++) {
+        for (int i = 0; i < 61; i++) {
             sum += x.flow(i % 9, i % 9 + 1, 1 + i) ? 1 : 0;
             sum += x.cost() + x.orders() + x.part(i % 3) + x.item(i % 10, i % 5);
             sum += x.place(i % 10, 1) + x.point(0, 9, i % 10, i % 2) + x.about(i % 8);

@@ -22,13 +22,6 @@ public final class RowTest {
         return x;
     }
 
-    private static void row(RibbonSetter x, int... places) {
-        for (int i = 0; i < places.length; i++) {
-            due.is("row(" + i + ")", x.row(i), places[i]);
-        }
-        due.is("row behind the last", x.row(places.length), NONE);
-    }
-
     private static void layers(RibbonSetter x, int... layers) {
         for (int p = 0; p < 10; p++) {
             due.is("layer(" + p + ")", x.layer(p), layers[p]);
@@ -47,7 +40,7 @@ public final class RowTest {
     // The first row by its PLACES takes a free PLACE as soon as it may stand.
     private static void rowWithoutRings() {
         RibbonSetter x = with(new int[] {5, 2, 1}, new int[] {3, 1, 1});
-        row(x, 3, 1, 5, 2);
+        due.row(x, 3, 1, 5, 2);
         layers(x, NONE, 1, 1, 0, NONE, 0, NONE, NONE, NONE, NONE);
         items(x, 2, 2);
         due.is("about(2)", x.about(2), 0);
@@ -55,11 +48,11 @@ public final class RowTest {
 
     private static void evenRing() {
         RibbonSetter x = with(new int[] {8, 3, 5}, new int[] {3, 8, 5});
-        row(x, 3, 8);
+        due.row(x, 3, 8);
         due.is("turned(8, 3)", x.turned(8, 3), 1);
         due.is("turned(3, 8)", x.turned(3, 8), 0);
         x.flow(8, 3, 6);
-        row(x, 8, 3);
+        due.row(x, 8, 3);
         due.is("turned(8, 3) by width", x.turned(8, 3), 0);
         due.is("turned(3, 8) by width", x.turned(3, 8), 1);
         due.is("about(2)", x.about(2), 1);
@@ -70,14 +63,14 @@ public final class RowTest {
     private static void twoLesserOrOneGreater() {
         RibbonSetter x = with(new int[] {0, 1, 5}, new int[] {1, 2, 5}, new int[] {2, 0, 3},
             new int[] {1, 0, 3});
-        row(x, 1, 2, 0);
+        due.row(x, 1, 2, 0);
         due.is("turned(0, 1)", x.turned(0, 1), 1);
         due.is("turned(2, 0)", x.turned(2, 0), 0);
         due.is("turned(1, 0)", x.turned(1, 0), 0);
         due.is("about(2)", x.about(2), 1);
         due.is("about(3)", x.about(3), 5);
         x.flow(1, 0, 2);
-        row(x, 0, 1, 2);
+        due.row(x, 0, 1, 2);
         due.is("about(2) of an even sum", x.about(2), 2);
         due.is("about(3) of an even sum", x.about(3), 5);
     }
@@ -87,7 +80,7 @@ public final class RowTest {
         for (int p = 0; p < 10; p++) {
             x.flow(p, (p + 1) % 10, p == 4 ? 1 : 9);
         }
-        row(x, 5, 6, 7, 8, 9, 0, 1, 2, 3, 4);
+        due.row(x, 5, 6, 7, 8, 9, 0, 1, 2, 3, 4);
         layers(x, 5, 6, 7, 8, 9, 0, 1, 2, 3, 4);
         due.is("turned(4, 5)", x.turned(4, 5), 1);
         items(x, 1, 1, 1, 1, 1, 1, 1, 1, 1, 1);
@@ -116,7 +109,7 @@ public final class RowTest {
         due.is("turned(0, 9)", x.turned(0, 9), 0);
         due.is("about(3)", x.about(3), 3);
         due.is("layer(9)", x.layer(9), 1);
-        row(x, 0, 1, 2, 3, 4, 5, 6, 7, 8, 9);
+        due.row(x, 0, 1, 2, 3, 4, 5, 6, 7, 8, 9);
     }
 
     private static void wrongArguments() {
