@@ -98,9 +98,17 @@ public final class PlainTest {
         return random.nextInt(bound);
     }
 
-    // Mostly within what there is, now and then right outside.
+    // Mostly within what there is, now and then right outside, or anywhere.
     private int about(int bound) {
-        return chance(20) == 0 ? (chance(2) == 0 ? -1 : bound) : chance(bound);
+        if (chance(20) > 0) {
+            return chance(bound);
+        }
+        switch (chance(6)) {
+            case 0: return random.nextInt();
+            case 1: return chance(2) == 0 ? Integer.MIN_VALUE : Integer.MAX_VALUE;
+            case 2: case 3: return -1;
+            default: return bound;
+        }
     }
 
     private void is(String call, int got, int want) {
